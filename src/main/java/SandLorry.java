@@ -552,8 +552,8 @@ public final class SandLorry {
     public int count(int what) {
         switch (what) {
             case 0: return scene.planned;
-            case 1: return filledOf(scene.slots, SLOTS);
-            case 2: return filledOf(scene.spots, SPOTS);
+            case 1: return filledOf(scene.slots);
+            case 2: return filledOf(scene.spots);
             case 3: return tape.length;
             case 4: return scene.z;
             case 5: return scene.firmInAll();
@@ -594,9 +594,9 @@ public final class SandLorry {
         return trial.isOut() ? times : -1;
     }
 
-    private static int filledOf(int[] row, int length) {
+    private static int filledOf(int[] row) {
         int filled = 0;
-        for (int i = 0; i < length && i < row.length; i++) {
+        for (int i = 0; i < row.length; i++) {
             if (row[i] != NOTHING) {
                 filled++;
             }
@@ -650,7 +650,7 @@ public final class SandLorry {
 
     private static boolean isOfKind(int kind, int wanted) {
         int at = kind;
-        for (int level = 0; level < KINDS && at != wanted; level++) {
+        for (int level = 0; level < KINDS && at != wanted && at != EFFORT; level++) {
             at = kindAbove(at);
         }
         return at == wanted;
@@ -789,8 +789,8 @@ public final class SandLorry {
 
     /** All that an image keeps. */
     private static final class Scene {
-        final int[] firm = new int[YARDS];
-        final Lorry lorry = new Lorry(firm);
+        final Lorry lorry = new Lorry(new int[YARDS]);
+        final int[] firm = lorry.firm;
         final int[] slots = new int[SLOTS];
         final int[] spots = new int[SPOTS];
         final int[] plan = new int[PLAN_ROOM];

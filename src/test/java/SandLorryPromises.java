@@ -37,11 +37,14 @@ public final class SandLorryPromises {
         effortOf();
         go();
         goBoarded();
+        goAtTheEdge();
         goByTheHour();
         gives();
         lasts();
         out();
+        outAtTheLast();
         when();
+        whenByTheHour();
         feed();
         wipe();
         text();
@@ -57,6 +60,7 @@ public final class SandLorryPromises {
         waterFor();
         boardsFor();
         way();
+        wayAtTheLast();
         odds();
         seed();
         hold();
@@ -434,6 +438,24 @@ public final class SandLorryPromises {
         due(10, "no BOARDS in going back", x.go(6), -1);
     }
 
+    private static void goAtTheEdge() {
+        SandLorry x = withKinds();
+        firmAll(x, 29);
+        due(10, "GRIP is one less", x.go(0), 0);
+        x.set(1, 0);
+        due(10, "back, GRIP is one less", x.go(6), 0);
+        x.set(1, 0);
+        firmAll(x, 30);
+        due(10, "GRIP is WEIGHT", x.go(0), 3);
+        due(10, "back, GRIP is WEIGHT", x.go(6), -3);
+        x.set(2, 22);
+        firmAll(x, 0);
+        due(10, "BOARDED, GRIP is one less", x.go(2), 0);
+        x.set(0, 0);
+        x.set(2, 20);
+        due(10, "no BOARDS under YARD 0", x.go(0), 0);
+    }
+
     private static void goByTheHour() {
         SandLorry x = digger(20, 27);
         due(10, "HOUR", x.now(8), 3);
@@ -507,6 +529,52 @@ public final class SandLorryPromises {
         due(13, "OUT now, nothing in the slot", driveOut(39, 0).out(9), NONE);
     }
 
+    /** From 8 on forty times digging brings nothing, then the crust, then firm sand. */
+    private static SandLorry diggerAtEight(int yard) {
+        SandLorry x = digger(0, 0);
+        x.set(2, 99);
+        x.go(7);
+        for (int half = 0; half < 8; half++) {
+            x.go(1);
+        }
+        x.set(2, 20);
+        x.set(1, 0);
+        x.set(0, yard);
+        firmAll(x, 50);
+        for (int soft = yard; soft < yard + 24; soft++) {
+            x.sand(soft, 10);
+        }
+        return x;
+    }
+
+    private static void outAtTheLast() {
+        due(13, "HOUR", diggerAtEight(8).now(8), 8);
+        due(13, "OUT behind the 50th", diggerAtEight(8).out(1), 50);
+        due(13, "would be OUT behind the 51st", diggerAtEight(6).out(1), NONE);
+        due(13, "OUT behind the 49th", diggerAtEight(10).out(1), 49);
+    }
+
+    private static void whenByTheHour() {
+        SandLorry x = digger(10, 20);
+        due(14, "HOUR 0", x.now(8), 0);
+        firmAll(x, 50);
+        due(14, "all alike at 0", x.when(0), 0);
+        SandLorry y = digger(10, 26);
+        y.set(1, 0);
+        due(14, "HOUR 3", y.now(8), 3);
+        due(14, "an hour on", y.when(0), 4);
+        SandLorry z = digger(0, 0);
+        z.set(2, 99);
+        for (int half = 0; half < 48; half++) {
+            z.go(1);
+        }
+        z.set(2, 20);
+        z.set(1, 0);
+        z.set(4, 0);
+        due(14, "a day on", z.now(7), 1440);
+        due(14, "to the HOUR's begin", z.when(5), 3);
+    }
+
     private static void when() {
         SandLorry x = withKinds();
         due(14, "all alike: that of now", x.when(0), 14);
@@ -578,6 +646,7 @@ public final class SandLorryPromises {
             due(17, "KIND " + i, x.planOf(i), kinds[i]);
         }
         due(17, "THE TAPE is empty", x.count(3), 0);
+        due(17, "once", read(new SandLorry(), "dug 1"), 1);
         due(17, "without blanks", read(x, "sand39 0;dug9"), 18);
         due(17, "FIRM of 39", x.yardOf(39, 0), 0);
         due(17, "item by item", read(x, "  water 5 ; water 00000000000000006  "), 18);
@@ -621,6 +690,8 @@ public final class SandLorryPromises {
         fault("dugs", 0);
         fault("du", 0);
         fault("5", 0);
+        fault("bug", 0);
+        fault("zand 1 2", 0);
         fault("dug 2;sand", 10);
         fault("sand 3", 6);
         fault("sand ;", 5);
@@ -865,14 +936,39 @@ public final class SandLorryPromises {
         due(27, "OUT at the other end", driveOut(0, 6).way(), 1);
     }
 
+    /** Sunk as deep as can be, just firm enough for the crust. */
+    private static SandLorry beforeTheCrust(int yard, boolean isTwentyAhead) {
+        SandLorry x = digger(0, 27);
+        for (int i = 0; i < 9; i++) {
+            x.go(0);
+        }
+        if (isTwentyAhead) {
+            x.go(0);
+        }
+        x.set(0, yard);
+        x.set(1, 99);
+        x.set(2, 40);
+        x.set(3, 9);
+        x.sand(yard, 99);
+        return x;
+    }
+
+    private static void wayAtTheLast() {
+        due(27, "MINUTE", beforeTheCrust(39, true).now(7), 820);
+        due(27, "on behind the 20th", beforeTheCrust(39, true).way(), 1);
+        due(27, "back behind the 20th", beforeTheCrust(0, true).way(), -1);
+        due(27, "on behind the 21st", beforeTheCrust(39, false).way(), 0);
+        due(27, "back behind the 21st", beforeTheCrust(0, false).way(), 0);
+    }
+
     private static void odds() {
-        int[] amounts = {1, 7, 20};
-        for (int n : amounts) {
+        for (int first = -40; first < 40; first++) {
+            int n = 1 + (first + 40) % 20;
             SandLorry x = new SandLorry();
-            x.seed(-9);
+            x.seed(first);
             x.set(3, 2);
             x.set(1, 30);
-            int z = -9;
+            int z = first;
             int often = 0;
             for (int i = 0; i < n; i++) {
                 z = z * 1103515245 + 12345;
@@ -1095,6 +1191,11 @@ public final class SandLorryPromises {
         x.write(1, 0, 40);
         x.write(1, 1, 40);
         due(36, "OUT behind the first", x.judge(1), 2);
+        x.clear();
+        x.set(0, 20);
+        x.sheet(3, 8, 1);
+        x.write(3, 0, 23);
+        due(36, "THE PLAN is empty", x.judge(3), 1);
         due(36, "no such sheet", x.judge(4), BEYOND);
         due(36, "no such sheet", x.judge(-1), BEYOND);
         due(36, "MISSING", x.judge(2), MISSING);
