@@ -39,6 +39,7 @@ public final class SandLorryTextEdges {
         faultAtTheEnd();
         faultOfOtherBytes();
         faultOfOtherWords();
+        everyLetterCounts();
         faultChangesNothing();
         emptyBehindText();
         itemByItem();
@@ -475,6 +476,21 @@ public final class SandLorryTextEdges {
         for (String word : List.of("a", "z", "mud", "sunk", "yard", "minute", "plan", "push", "sands", "san", "sack")) {
             fault(word, 0);
             fault("dug;" + word + " 5", 4);
+        }
+    }
+
+    private static void everyLetterCounts() {
+        Edge.of(0, "another WORD: by a letter");
+        for (String[] words : new String[][] {KIND_WORDS, NUMBER_WORDS, {"sand"}}) {
+            for (String word : words) {
+                for (int i = 0; i < word.length(); i++) {
+                    for (char other : new char[] {'a', 'q', 'z'}) {
+                        String changed = word.substring(0, i) + other + word.substring(i + 1);
+                        // A NUMBER or two behind it, such as each of the WORDS may have.
+                        fault(changed + " 1" + (word.equals("sand") ? " 1" : ""), changed.equals(word) ? -1 : 0);
+                    }
+                }
+            }
         }
     }
 
