@@ -519,8 +519,7 @@ public final class SandLorry {
         }
         trial.become(lorry);
         for (int i = 0; i < sheet.size; i++) {
-            boolean isDone = i < scene.planned && trial.carriesOut(scene.plan[i]);
-            if (!isDone || trial.has[YARD] != sheet.numbers[i]) {
+            if (!scene.isStepDoneBy(trial, i) || trial.has[YARD] != sheet.numbers[i]) {
                 return 1 + i;
             }
         }
@@ -839,10 +838,15 @@ public final class SandLorry {
 
         int planDoneBy(Lorry who) {
             int done = 0;
-            while (done < planned && done < PLAN_ROOM && who.carriesOut(plan[done])) {
+            while (done < PLAN_ROOM && isStepDoneBy(who, done)) {
                 done++;
             }
             return done;
+        }
+
+        /** Does one of the plan; tells false if the plan has none there, or it can't be done. */
+        boolean isStepDoneBy(Lorry who, int i) {
+            return i >= 0 && i < planned && i < PLAN_ROOM && who.carriesOut(plan[i]);
         }
     }
 
